@@ -28,7 +28,6 @@ public final class SwanSums {
     private boolean firstKept = false;
     private boolean secondKept = false;
     private final Pad pad = new Pad();
-    private final Moat moat = new Moat();
     /** Null till a plan is first asked for: its rows are the dearest ones by far. */
     private Routes routes = null;
 
@@ -85,7 +84,7 @@ public final class SwanSums {
         if (pad.gaps() > 0) {
             return STATE;
         }
-        return pad.pass(moat, flock.row, flock.size, 0);
+        return pad.pass(flock.row, flock.size, 0);
     }
 
     public int done() {
@@ -94,8 +93,8 @@ public final class SwanSums {
             return refusal;
         }
         int events = pad.events();
-        flock.row = moat.row;
-        flock.size = moat.size;
+        flock.row = pad.rowBehind;
+        flock.size = pad.sizeBehind;
         pad.count = 0;
         return events;
     }
@@ -113,12 +112,12 @@ public final class SwanSums {
             return refusal;
         }
         if (place == -1) {
-            return moat.size;
+            return pad.sizeBehind;
         }
-        if (place < 0 || place >= moat.size) {
+        if (place < 0 || place >= pad.sizeBehind) {
             return NONE;
         }
-        return Rows.who(moat.row, place);
+        return Rows.who(pad.rowBehind, place);
     }
 
     public int taught(int what) {
@@ -132,7 +131,7 @@ public final class SwanSums {
         if (refusal != NONE) {
             return refusal;
         }
-        return Lessons.asBits(Lines.inOrder(flock.numbers, moat.row, moat.size), moat.size);
+        return Lessons.asBits(Lines.inOrder(flock.numbers, pad.rowBehind, pad.sizeBehind), pad.sizeBehind);
     }
 
     public int read(int sum, int what) {
@@ -262,8 +261,8 @@ public final class SwanSums {
         int ways = 0;
         int first = 0;
         for (int fill = 0; fill < fills; fill++) {
-            int wrong = pad.pass(moat, flock.row, flock.size, fill);
-            if (wrong == NONE && flock.sightsHold(moat.row, moat.size)) {
+            int wrong = pad.pass(flock.row, flock.size, fill);
+            if (wrong == NONE && flock.sightsHold(pad.rowBehind, pad.sizeBehind)) {
                 first = ways == 0 ? fill : first;
                 ways++;
             }
@@ -378,7 +377,7 @@ public final class SwanSums {
         return true;
     }
 
-    /** Why the DAY can not be DONE; if it can (NONE), the moat is as it is BEHIND. */
+    /** Why the DAY can not be DONE; if it can (NONE), the PAD tells the row BEHIND. */
     private int refusalOfDay() {
         if (pad.firstFault() != NONE) {
             return NO;
@@ -386,7 +385,7 @@ public final class SwanSums {
         if (pad.gaps() > 0) {
             return STATE;
         }
-        return pad.pass(moat, flock.row, flock.size, 0) == NONE ? NONE : NO;
+        return pad.pass(flock.row, flock.size, 0) == NONE ? NONE : NO;
     }
 
     private int rowBehindPikes(int fill, int m) {
@@ -511,28 +510,7 @@ public final class SwanSums {
         }
     }
 
-    /** A row that EVENTS change, while THE ROW itself stays as it is. */
-    private static final class Moat {
-        int row = 0;
-        int size = 0;
-
-        void begin(int rowNow, int sizeNow) {
-            row = rowNow;
-            size = sizeNow;
-        }
-
-        /** Whether the EVENT could be. */
-        boolean happen(int sort, int place) {
-            if (place < 0 || place >= Sorts.places(sort, size)) {
-                return false;
-            }
-            row = Rows.behindEvent(row, size, sort, place);
-            size -= sort == Sorts.SOLD ? 1 : 0;
-            return true;
-        }
-    }
-
-    /** The PAD: signs, and the DAY that they tell. */
+    /** The PAD: signs, and the DAY that they tell, tried while THE ROW itself stays as it is. */
     private static final class Pad {
         static final int LEAST_SIGN = 33;
         static final int MOST_SIGN = 126;
@@ -542,6 +520,9 @@ public final class SwanSums {
 
         private final int[] signs = new int[MOST_SIGNS];
         int count = 0;
+        /** Where the DAY led that was last tried. */
+        int rowBehind = 0;
+        int sizeBehind = 0;
 
         boolean add(int sign) {
             if (count < 0 || count >= signs.length) {
@@ -596,12 +577,13 @@ public final class SwanSums {
         }
 
         /**
-         * Lets the DAY (one without FAULT) happen in the moat, from this row on, up to the
-         * first EVENT that can not be, which it answers, or NONE. What stands for the gaps
-         * are the digits of fill to the base size.
+         * Tries the DAY (one without FAULT) from this row on, up to the first EVENT that
+         * can not be, which it answers, or NONE. What stands for the gaps are the digits
+         * of fill to the base size.
          */
-        int pass(Moat moat, int row, int size, int fill) {
-            moat.begin(row, size);
+        int pass(int row, int size, int fill) {
+            rowBehind = row;
+            sizeBehind = size;
             int gapsLeft = gaps();
             int event = 0;
             for (int i = 0; i < count; i++) {
@@ -615,12 +597,21 @@ public final class SwanSums {
                         place = Digits.digit(fill, size, gapsLeft);
                     }
                 }
-                if (!moat.happen(sort, place)) {
+                if (!couldBe(sort, place)) {
                     return event;
                 }
                 event++;
             }
             return NONE;
+        }
+
+        private boolean couldBe(int sort, int place) {
+            if (place < 0 || place >= Sorts.places(sort, sizeBehind)) {
+                return false;
+            }
+            rowBehind = Rows.behindEvent(rowBehind, sizeBehind, sort, place);
+            sizeBehind -= sort == Sorts.SOLD ? 1 : 0;
+            return true;
         }
     }
 

@@ -4,6 +4,8 @@ import java.util.Random;
 public final class ChanceTest {
     private static final int RUNS = 480;
     private static final int CALLS = 512;
+    private static final int HARD_RUNS = 60;
+    private static final int[] HARD_WEEKS = {101, 130, 1010, 1313, 1616, 3104, 6060, 6161, 5151, 4104, 1213, 6012};
     private static final int[] ODD = {Integer.MIN_VALUE, Integer.MIN_VALUE + 9, -1000, -2, -1, 7, 8, 9, 10, 17, 60, 100,
         127, 694, 10000, 65537, Integer.MAX_VALUE - 9, Integer.MAX_VALUE};
     private static final String[] NAMES = {"swans", "number", "say", "wipe", "fault", "judge", "done", "at", "behind",
@@ -33,7 +35,31 @@ public final class ChanceTest {
         for (int seed = 0; seed < RUNS; seed++) {
             new ChanceTest(seed).run("run " + seed);
         }
+        for (int seed = 0; seed < HARD_RUNS; seed++) {
+            new ChanceTest(8 * seed).runHard("hard run " + seed);
+        }
         Check.end("ChanceTest");
+    }
+
+    /** Weeks and plans of seven SWANS, the longest searches that there are. */
+    private void runHard(String name) {
+        Check.due(name + " swans", x.swans(7), y.swans(7));
+        int[] numbers = new int[7];
+        for (int swan = 0; swan < 7; swan++) {
+            numbers[swan] = random.nextInt(small ? 12 : 100);
+            Check.due(name + " number", x.number(swan, numbers[swan]), y.number(swan, numbers[swan]));
+        }
+        for (int k = 0; k < 3; k++) {
+            int digits = HARD_WEEKS[random.nextInt(HARD_WEEKS.length)];
+            String told = name + java.util.Arrays.toString(numbers) + " week " + digits;
+            Check.due(told, x.week(digits, 4), y.week(digits, 4));
+        }
+        for (int lesson = 0; lesson < 7; lesson++) {
+            for (int i = -1; i < 7; i += 1 + random.nextInt(3)) {
+                String told = name + java.util.Arrays.toString(numbers) + " plan " + lesson + " " + i;
+                Check.due(told, x.plan(lesson, i), y.plan(lesson, i));
+            }
+        }
     }
 
     private void run(String name) {

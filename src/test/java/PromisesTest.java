@@ -739,7 +739,16 @@ public final class PromisesTest {
         due("told(1)", x.told(1), 6);
         due("told(12)", x.told(12), 77);
         due("told(3)", x.told(3), 1);
+        day(x, "g?");
+        due("its SIGHT does not hold", x.filled(-1), 0);
+        x.forget();
+        due("without SIGHTS", x.filled(-1), 4);
+        x.seen(5, 1);
         due("image(0) again", x.image(0), 1);
+        x.forget();
+        due("restore(0)", x.restore(0), 1);
+        due("its SIGHT holds by one", x.filled(-1), 1);
+        due("its SIGHT holds by one", x.filled(0), 0);
         x.number(2, 1);
         due("restore(0)", x.restore(0), 1);
         due("told(12)", x.told(12), 77);
