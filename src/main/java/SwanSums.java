@@ -751,7 +751,7 @@ public final class SwanSums {
 
         /** By how much the one who takes next comes out ahead; each round is one SWAN shorter. */
         private static int lead(long line, int size) {
-            if (size < 1) {
+            if (size < 1 || size > MOST_SWANS) {
                 return 0;
             }
             return Math.max(leadByFirst(line, size), leadByLast(line, size));

@@ -2,16 +2,26 @@
 final class Check {
     private static int asked = 0;
     private static int wrong = 0;
+    private static String of = "";
 
     private Check() {
     }
 
+    /** The sentence of the document, or the promise, that the next answers are due by. */
+    static void of(String sentence) {
+        of = sentence.isEmpty() ? "" : sentence + ": ";
+    }
+
     static void due(String call, long got, long want) {
+        due(call, Long.toString(got), Long.toString(want));
+    }
+
+    static void due(String call, String got, String want) {
         asked++;
-        if (got != want) {
+        if (!got.equals(want)) {
             wrong++;
             if (wrong <= 50) {
-                System.out.println(call + " answered " + got + ", due is " + want);
+                System.out.println(of + call + " answered " + got + ", due is " + want);
             }
         }
     }
@@ -20,7 +30,7 @@ final class Check {
         asked++;
         if (!it) {
             wrong++;
-            System.out.println("does not hold: " + what);
+            System.out.println(of + "does not hold: " + what);
         }
     }
 

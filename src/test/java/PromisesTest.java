@@ -4,8 +4,6 @@ public final class PromisesTest {
     private static final long LOST = -1000000000000000000L;
     private static final int LEAST = Integer.MIN_VALUE, MOST = Integer.MAX_VALUE;
 
-    private static String of = "";
-
     public static void main(String[] args) {
         constants();
         aNewObject();
@@ -39,26 +37,7 @@ public final class PromisesTest {
     }
 
     private static void due(String call, long got, long want) {
-        Check.due(of + ": " + call, got, want);
-    }
-
-    /** A new object with these NUMBERS. */
-    private static SwanSums withNumbers(int... numbers) {
-        SwanSums x = new SwanSums();
-        x.swans(numbers.length);
-        for (int k = 0; k < numbers.length; k++) {
-            x.number(k, numbers[k]);
-        }
-        return x;
-    }
-
-    /** Just this text on the PAD. */
-    private static SwanSums day(SwanSums x, String text) {
-        x.wipe();
-        for (int k = 0; k < text.length(); k++) {
-            x.say(text.charAt(k));
-        }
-        return x;
+        Check.due(call, got, want);
     }
 
     private static void rowIs(SwanSums x, String row) {
@@ -69,7 +48,7 @@ public final class PromisesTest {
     }
 
     private static void behindIs(SwanSums x, String text, String row) {
-        day(x, text);
+        Given.day(x, text);
         due("behind(-1) of " + text, x.behind(-1), row.length());
         for (int place = 0; place < row.length(); place++) {
             due("behind(" + place + ") of " + text, x.behind(place), row.charAt(place) - '0');
@@ -78,7 +57,7 @@ public final class PromisesTest {
     }
 
     private static void constants() {
-        of = "constants";
+        Check.of("constants");
         due("NONE", SwanSums.NONE, NONE);
         due("UNKNOWN", SwanSums.UNKNOWN, UNKNOWN);
         due("OUTSIDE", SwanSums.OUTSIDE, OUTSIDE);
@@ -89,7 +68,7 @@ public final class PromisesTest {
     }
 
     private static void aNewObject() {
-        of = "1";
+        Check.of("1");
         SwanSums x = new SwanSums();
         due("told(0)", x.told(0), 0);
         due("told(1)", x.told(1), 4);
@@ -104,15 +83,15 @@ public final class PromisesTest {
     }
 
     private static void swans() {
-        of = "2";
+        Check.of("2");
         SwanSums x = new SwanSums();
         due("swans(7)", x.swans(7), 4);
         due("told(1)", x.told(1), 7);
         x.number(6, 50);
         x.seen(6, 0);
-        day(x, "rx0");
+        Given.day(x, "rx0");
         x.done();
-        day(x, "b5");
+        Given.day(x, "b5");
         due("swans(8)", x.swans(8), OUTSIDE);
         due("swans(0)", x.swans(0), OUTSIDE);
         due("swans(-1)", x.swans(-1), OUTSIDE);
@@ -132,7 +111,7 @@ public final class PromisesTest {
     }
 
     private static void number() {
-        of = "3";
+        Check.of("3");
         SwanSums x = new SwanSums();
         due("number(0, 99)", x.number(0, 99), 1);
         due("number(0, 0)", x.number(0, 0), 99);
@@ -146,14 +125,14 @@ public final class PromisesTest {
         due("UNKNOWN ahead of OUTSIDE", x.number(4, 100), UNKNOWN);
         due("told(13)", x.told(13), 7);
         due("told(12)", x.told(12), 3);
-        day(x, "x3");
+        Given.day(x, "x3");
         x.done();
         due("of a SOLD one", x.number(3, 5), 7);
         due("of a SOLD one", x.told(13), 5);
     }
 
     private static void say() {
-        of = "4";
+        Check.of("4");
         SwanSums x = new SwanSums();
         due("say(33)", x.say(33), 1);
         due("say(126)", x.say(126), 2);
@@ -176,10 +155,10 @@ public final class PromisesTest {
     }
 
     private static void wipe() {
-        of = "5";
+        Check.of("5");
         SwanSums x = new SwanSums();
         due("wipe()", x.wipe(), 0);
-        day(x, "b3p?");
+        Given.day(x, "b3p?");
         due("wipe()", x.wipe(), 4);
         due("told(0)", x.told(0), 0);
         due("wipe()", x.wipe(), 0);
@@ -188,13 +167,13 @@ public final class PromisesTest {
     }
 
     private static void faultOf(String text, int want) {
-        SwanSums x = day(new SwanSums(), text);
+        SwanSums x = Given.day(new SwanSums(), text);
         due("fault() of " + text, x.fault(), want);
         due("told(0)", x.told(0), text.length());
     }
 
     private static void fault() {
-        of = "6";
+        Check.of("6");
         faultOf("", NONE);
         faultOf("b0p1rg2x3", NONE);
         faultOf("b9p9g9x9", NONE);
@@ -221,11 +200,11 @@ public final class PromisesTest {
     }
 
     private static void judgeOf(String text, int want) {
-        due("judge() of " + text, day(new SwanSums(), text).judge(), want);
+        due("judge() of " + text, Given.day(new SwanSums(), text).judge(), want);
     }
 
     private static void judge() {
-        of = "7";
+        Check.of("7");
         judgeOf("", NONE);
         judgeOf("b3", NONE);
         judgeOf("b4", 0);
@@ -245,54 +224,54 @@ public final class PromisesTest {
         judgeOf("b?", STATE);
         judgeOf("b9b?", STATE);
         judgeOf("b?z", NO);
-        SwanSums x = day(new SwanSums(), "x3r");
+        SwanSums x = Given.day(new SwanSums(), "x3r");
         x.judge();
         rowIs(x, "0123");
         due("the PAD stays", x.told(0), 3);
     }
 
     private static void done() {
-        of = "8";
+        Check.of("8");
         SwanSums x = new SwanSums();
         due("of nothing", x.done(), 0);
-        due("b2", day(x, "b2").done(), 1);
+        due("b2", Given.day(x, "b2").done(), 1);
         rowIs(x, "2013");
         due("the PAD is empty", x.told(0), 0);
-        due("p0rg1", day(x, "p0rg1").done(), 3);
+        due("p0rg1", Given.day(x, "p0rg1").done(), 3);
         rowIs(x, "2130");
-        due("x1x1", day(x, "x1x1").done(), 2);
+        due("x1x1", Given.day(x, "x1x1").done(), 2);
         rowIs(x, "20");
         due("of all", x.told(1), 4);
-        due("can not be", day(x, "rb2").done(), NO);
-        due("with a gap", day(x, "b?").done(), STATE);
-        due("with a gap and what can not be", day(x, "b9b?").done(), STATE);
-        due("with a gap and a FAULT", day(x, "b?b").done(), NO);
+        due("can not be", Given.day(x, "rb2").done(), NO);
+        due("with a gap", Given.day(x, "b?").done(), STATE);
+        due("with a gap and what can not be", Given.day(x, "b9b?").done(), STATE);
+        due("with a gap and a FAULT", Given.day(x, "b?b").done(), NO);
         rowIs(x, "20");
         due("the PAD stays", x.told(0), 3);
-        due("the last one", day(x, "x0x0").done(), NO);
-        due("the last but one", day(x, "x1").done(), 1);
+        due("the last one", Given.day(x, "x0x0").done(), NO);
+        due("the last but one", Given.day(x, "x1").done(), 1);
         rowIs(x, "2");
-        due("BREAD of one", day(x, "b0p0r").done(), 3);
-        due("a GUST of one", day(x, "g0").done(), NO);
-        due("SOLD of one", day(x, "x0").done(), NO);
+        due("BREAD of one", Given.day(x, "b0p0r").done(), 3);
+        due("a GUST of one", Given.day(x, "g0").done(), NO);
+        due("SOLD of one", Given.day(x, "x0").done(), NO);
     }
 
     private static void at() {
-        of = "9";
+        Check.of("9");
         SwanSums x = new SwanSums();
-        day(x, "rx0").done();
+        Given.day(x, "rx0").done();
         due("at(0)", x.at(0), 2);
         due("at(2)", x.at(2), 0);
         due("at(3)", x.at(3), UNKNOWN);
         due("at(-1)", x.at(-1), UNKNOWN);
         due("at(LEAST)", x.at(LEAST), UNKNOWN);
         due("at(MOST)", x.at(MOST), UNKNOWN);
-        day(x, "r");
+        Given.day(x, "r");
         due("now, not BEHIND", x.at(0), 2);
     }
 
     private static void behind() {
-        of = "10";
+        Check.of("10");
         SwanSums x = new SwanSums();
         behindIs(x, "", "0123");
         behindIs(x, "b2", "2013");
@@ -305,11 +284,11 @@ public final class PromisesTest {
         due("LEAST", x.behind(LEAST), NONE);
         due("MOST", x.behind(MOST), NONE);
         rowIs(x, "0123");
-        due("can not be", day(x, "b4").behind(-1), NO);
-        due("a FAULT", day(x, "b").behind(0), NO);
-        due("a gap", day(x, "b?").behind(-1), STATE);
+        due("can not be", Given.day(x, "b4").behind(-1), NO);
+        due("a FAULT", Given.day(x, "b").behind(0), NO);
+        due("a gap", Given.day(x, "b?").behind(-1), STATE);
         due("a gap, no such PLACE", x.behind(99), STATE);
-        due("a gap and a FAULT", day(x, "b?b").behind(0), NO);
+        due("a gap and a FAULT", Given.day(x, "b?b").behind(0), NO);
         x.swans(7);
         behindIs(x, "b6", "6012345");
         behindIs(x, "p0", "1234560");
@@ -321,31 +300,31 @@ public final class PromisesTest {
     }
 
     private static void taught() {
-        of = "11";
+        Check.of("11");
         SwanSums x = new SwanSums();
         due("taught(0)", x.taught(0), 17);
         due("taught(1)", x.taught(1), 17);
-        day(x, "b3");
+        Given.day(x, "b3");
         due("taught(0)", x.taught(0), 17);
         due("taught(1)", x.taught(1), 80);
         due("taught(2)", x.taught(2), OUTSIDE);
         due("taught(-1)", x.taught(-1), OUTSIDE);
-        due("a gap", day(x, "b?").taught(1), STATE);
+        due("a gap", Given.day(x, "b?").taught(1), STATE);
         due("a gap, now", x.taught(0), 17);
         due("OUTSIDE ahead of STATE", x.taught(2), OUTSIDE);
-        due("a FAULT", day(x, "b?b").taught(1), NO);
-        due("can not be", day(x, "b4").taught(1), NO);
+        due("a FAULT", Given.day(x, "b?b").taught(1), NO);
+        due("can not be", Given.day(x, "b4").taught(1), NO);
         due("can not be, now", x.taught(0), 17);
-        due("SOLD", day(x, "x0x0x0").taught(1), 59);
+        due("SOLD", Given.day(x, "x0x0x0").taught(1), 59);
     }
 
     private static void teaches(int lesson, boolean want, int... numbers) {
-        SwanSums x = withNumbers(numbers);
+        SwanSums x = Given.numbers(numbers);
         due("lesson " + lesson + " of " + java.util.Arrays.toString(numbers), x.taught(0) >> lesson & 1, want ? 1 : 0);
     }
 
     private static void lessons() {
-        of = "11, LESSONS";
+        Check.of("11, LESSONS");
         teaches(0, true, 0, 1, 5, 99);
         teaches(0, false, 0, 1, 1);
         teaches(0, false, 2, 1);
@@ -393,15 +372,15 @@ public final class PromisesTest {
     }
 
     private static void read() {
-        of = "12";
-        SwanSums x = withNumbers(3, 1, 2, 0, 3, 4);
+        Check.of("12");
+        SwanSums x = Given.numbers(3, 1, 2, 0, 3, 4);
         readIs(x, 3, 5, 0, 1);
         readIs(x, 7, 2, 3, 2);
         readIs(x, 0, 1, 3, 1);
         readIs(x, 13, 1, 0, 6);
         readIs(x, 8, 0, NONE, NONE);
         readIs(x, 6, 3, 0, 3);
-        x = withNumbers(99, 99, 99, 99, 99, 99, 99);
+        x = Given.numbers(99, 99, 99, 99, 99, 99, 99);
         readIs(x, 693, 1, 0, 7);
         readIs(x, 99, 7, 0, 1);
         due("read(694, 0)", x.read(694, 0), OUTSIDE);
@@ -410,21 +389,21 @@ public final class PromisesTest {
         due("read(0, -1)", x.read(0, -1), OUTSIDE);
         due("read(LEAST, MOST)", x.read(LEAST, MOST), OUTSIDE);
         x = new SwanSums();
-        day(x, "x0r").done();
+        Given.day(x, "x0r").done();
         readIs(x, 1, 0, NONE, NONE);
         readIs(x, 5, 1, 1, 2);
         readIs(x, 9, 1, 0, 3);
     }
 
     private static void longest() {
-        of = "13";
+        Check.of("13");
         due("longest()", new SwanSums().longest(), 4);
-        due("longest()", withNumbers(1, 2, 2, 3, 4, 1, 9).longest(), 3);
-        due("longest()", withNumbers(5, 4, 3).longest(), 1);
-        due("longest()", withNumbers(5).longest(), 1);
-        due("longest()", withNumbers(3, 3, 3).longest(), 1);
+        due("longest()", Given.numbers(1, 2, 2, 3, 4, 1, 9).longest(), 3);
+        due("longest()", Given.numbers(5, 4, 3).longest(), 1);
+        due("longest()", Given.numbers(5).longest(), 1);
+        due("longest()", Given.numbers(3, 3, 3).longest(), 1);
         SwanSums x = new SwanSums();
-        day(x, "b3").done();
+        Given.day(x, "b3").done();
         due("longest()", x.longest(), 3);
     }
 
@@ -437,19 +416,19 @@ public final class PromisesTest {
     }
 
     private static void plan() {
-        of = "14";
+        Check.of("14");
         SwanSums x = new SwanSums();
         planIs(x, 0);
         planIs(x, 1, 1, 3);
         planIs(x, 3, 10);
-        x = withNumbers(4, 3, 2, 1);
+        x = Given.numbers(4, 3, 2, 1);
         planIs(x, 0, 20);
-        x = withNumbers(1, 3, 2, 4);
+        x = Given.numbers(1, 3, 2, 4);
         planIs(x, 0, 31);
-        x = withNumbers(8, 3, 6, 1);
-        day(x, "b3").done();
+        x = Given.numbers(8, 3, 6, 1);
+        Given.day(x, "b3").done();
         planIs(x, 0, 11);
-        x = withNumbers(8, 2, 6, 4);
+        x = Given.numbers(8, 2, 6, 4);
         due("by none", x.plan(4, -1), NONE);
         due("by none", x.plan(4, 0), NONE);
         due("below -1", x.plan(0, -2), NONE);
@@ -458,14 +437,14 @@ public final class PromisesTest {
         due("plan(7, 0)", x.plan(7, 0), OUTSIDE);
         due("plan(-1, 0)", x.plan(-1, 0), OUTSIDE);
         rowIs(x, "0123");
-        x = withNumbers(9, 3, 5, 1, 7, 2, 0);
+        x = Given.numbers(9, 3, 5, 1, 7, 2, 0);
         planIs(x, 0, 5, 4, 6, 13);
-        day(x, "x6x5x4").done();
+        Given.day(x, "x6x5x4").done();
         planIs(x, 0, 3, 11);
     }
 
     private static void week() {
-        of = "15";
+        Check.of("15");
         SwanSums x = new SwanSums();
         due("0", x.week(0, 1), 0);
         due("04", x.week(4, 2), 0);
@@ -493,7 +472,7 @@ public final class PromisesTest {
     }
 
     private static void sell() {
-        of = "16";
+        Check.of("16");
         SwanSums x = new SwanSums();
         int[] due = {15, 0, 1, 1, 9, 4, 0};
         for (int lesson = 0; lesson < 7; lesson++) {
@@ -501,11 +480,11 @@ public final class PromisesTest {
         }
         due("sell(7)", x.sell(7), OUTSIDE);
         due("sell(-1)", x.sell(-1), OUTSIDE);
-        day(x, "b3").done();
+        Given.day(x, "b3").done();
         due("by SWAN, not by PLACE", x.sell(0), 8);
-        day(x, "x0").done();
+        Given.day(x, "x0").done();
         due("without the SOLD one", x.sell(0), 7);
-        day(x, "x0x0").done();
+        Given.day(x, "x0x0").done();
         due("the last one", x.sell(0), 0);
         due("the last one", x.sell(5), 0);
         rowIs(x, "2");
@@ -518,7 +497,7 @@ public final class PromisesTest {
     }
 
     private static void worn() {
-        of = "17";
+        Check.of("17");
         SwanSums x = new SwanSums();
         wornIs(x, 0, 2, 25, 2, 97);
         wornIs(x, 1, 2, 0, NONE, NONE);
@@ -534,7 +513,7 @@ public final class PromisesTest {
         due("worn(0, -1, 0)", x.worn(0, -1, 0), OUTSIDE);
         due("worn(0, 0, 3)", x.worn(0, 0, 3), OUTSIDE);
         due("worn(0, 0, -1)", x.worn(0, 0, -1), OUTSIDE);
-        day(x, "x0r").done();
+        Given.day(x, "x0r").done();
         due("who is SOLD", x.worn(0, 0, 0), UNKNOWN);
         due("who is SOLD, ahead of OUTSIDE", x.worn(0, 9, 9), UNKNOWN);
         wornIs(x, 3, 2, 25, 2, 97);
@@ -542,34 +521,34 @@ public final class PromisesTest {
     }
 
     private static void rivals() {
-        of = "18";
+        Check.of("18");
         SwanSums x = new SwanSums();
         due("rivals(0)", x.rivals(0), 6);
         due("rivals(1)", x.rivals(1), 1);
         due("rivals(2)", x.rivals(2), OUTSIDE);
         due("rivals(-1)", x.rivals(-1), OUTSIDE);
-        x = withNumbers(9, 2, 3, 4);
+        x = Given.numbers(9, 2, 3, 4);
         due("rivals(0)", x.rivals(0), 12);
         due("rivals(1)", x.rivals(1), 0);
-        x = withNumbers(2, 2, 2);
+        x = Given.numbers(2, 2, 2);
         due("as good", x.rivals(0), 4);
         due("as good: the first", x.rivals(1), 0);
-        x = withNumbers(5, 99, 6, 1);
+        x = Given.numbers(5, 99, 6, 1);
         due("not the greedy end", x.rivals(0), 100);
         due("not the greedy end", x.rivals(1), 1);
-        x = withNumbers(42);
+        x = Given.numbers(42);
         due("one", x.rivals(0), 42);
         due("one", x.rivals(1), 0);
-        x = withNumbers(99, 98, 97, 96, 95, 94, 93);
+        x = Given.numbers(99, 98, 97, 96, 95, 94, 93);
         due("seven", x.rivals(0), 99 + 97 + 95 + 93);
         x = new SwanSums();
-        day(x, "x3").done();
+        Given.day(x, "x3").done();
         due("without the SOLD one", x.rivals(0), 4);
         rowIs(x, "012");
     }
 
     private static void seen() {
-        of = "19";
+        Check.of("19");
         SwanSums x = new SwanSums();
         due("seen(4, 0)", x.seen(4, 0), UNKNOWN);
         due("seen(-1, 0)", x.seen(-1, 0), UNKNOWN);
@@ -577,7 +556,7 @@ public final class PromisesTest {
         due("seen(0, 7)", x.seen(0, 7), OUTSIDE);
         due("seen(0, -1)", x.seen(0, -1), OUTSIDE);
         due("seen(0, 6)", x.seen(0, 6), 1);
-        day(x, "x3").done();
+        Given.day(x, "x3").done();
         due("a SOLD one", x.seen(3, 0), 2);
         for (int k = 3; k <= 6; k++) {
             due("the same again", x.seen(1, 1), k);
@@ -595,7 +574,7 @@ public final class PromisesTest {
     }
 
     private static void forget() {
-        of = "20";
+        Check.of("20");
         SwanSums x = new SwanSums();
         due("forget()", x.forget(), 0);
         x.seen(0, 1);
@@ -610,7 +589,7 @@ public final class PromisesTest {
     }
 
     private static void filledIs(SwanSums x, String text, int ways, int... digits) {
-        day(x, text);
+        Given.day(x, text);
         due("filled(-1) of " + text, x.filled(-1), ways);
         for (int i = 0; i < digits.length; i++) {
             due("filled(" + i + ") of " + text, x.filled(i), digits[i]);
@@ -620,7 +599,7 @@ public final class PromisesTest {
     }
 
     private static void filled() {
-        of = "21";
+        Check.of("21");
         SwanSums x = new SwanSums();
         filledIs(x, "", 1);
         filledIs(x, "b3", 1);
@@ -632,9 +611,9 @@ public final class PromisesTest {
         filledIs(x, "b9p?", 0);
         filledIs(x, "x0x0x0b?p?", 1, 0, 0);
         filledIs(x, "x0x0x0g?", 0);
-        due("a FAULT", day(x, "b?b").filled(-1), NO);
+        due("a FAULT", Given.day(x, "b?b").filled(-1), NO);
         due("a FAULT", x.filled(0), NO);
-        due("a fourth gap", day(x, "b?b?b?b?").filled(-1), NO);
+        due("a fourth gap", Given.day(x, "b?b?b?b?").filled(-1), NO);
         x.seen(3, 0);
         filledIs(x, "b?", 1, 3);
         filledIs(x, "g?b?", 3, 0, 3);
@@ -661,7 +640,7 @@ public final class PromisesTest {
     }
 
     private static void pikes() {
-        of = "22";
+        Check.of("22");
         SwanSums x = new SwanSums();
         pikesIs(x, 0, 0, 1, 1);
         pikesIs(x, 2, 0, 0, 1);
@@ -674,20 +653,20 @@ public final class PromisesTest {
         due("pikes(0, -1, 0)", x.pikes(0, -1, 0), LOST + OUTSIDE);
         due("pikes(0, 0, 2)", x.pikes(0, 0, 2), LOST + OUTSIDE);
         due("pikes(0, 0, -1)", x.pikes(0, 0, -1), LOST + OUTSIDE);
-        x = withNumbers(2, 4, 6);
+        x = Given.numbers(2, 4, 6);
         pikesIs(x, 1, 3, 1, 1);
         pikesIs(x, 4, 3, 0, 1);
-        day(x, "x0").done();
+        Given.day(x, "x0").done();
         pikesIs(x, 0, 1, 1, 2);
         pikesIs(x, 0, 3, 1, 2);
-        x = withNumbers(1, 2, 3, 4, 5, 6, 7);
+        x = Given.numbers(1, 2, 3, 4, 5, 6, 7);
         pikesIs(x, 0, 3, 5, 343);
         pikesIs(x, 2, 1, 1, 7);
         rowIs(x, "0123456");
     }
 
     private static void year() {
-        of = "23";
+        Check.of("23");
         SwanSums x = new SwanSums();
         // x is 74: BREAD at 37 left over by 4, so SWAN 1 is first.
         due("year(0, 1, 11)", x.year(0, 1, 11), 1);
@@ -713,14 +692,14 @@ public final class PromisesTest {
         due("year(0, 1, LEAST)", x.year(0, 1, LEAST), OUTSIDE);
         due("year(0, 1, MOST)", x.year(0, 1, MOST), OUTSIDE);
         rowIs(x, "0123");
-        day(x, "x1").done();
+        Given.day(x, "x1").done();
         due("a SOLD one", x.year(0, 99, 11), 0);
-        day(x, "x0x0").done();
+        Given.day(x, "x0x0").done();
         due("the last one", x.year(5, 99, 13), 99);
     }
 
     private static void image() {
-        of = "24";
+        Check.of("24");
         SwanSums x = new SwanSums();
         due("image(2)", x.image(2), OUTSIDE);
         due("image(-1)", x.image(-1), OUTSIDE);
@@ -728,7 +707,7 @@ public final class PromisesTest {
         x.swans(6);
         x.number(2, 77);
         x.seen(2, 5);
-        day(x, "x0r").done();
+        Given.day(x, "x0r").done();
         due("image(1)", x.image(1), 1);
         x.swans(1);
         due("restore(0)", x.restore(0), 1);
@@ -739,7 +718,7 @@ public final class PromisesTest {
         due("told(1)", x.told(1), 6);
         due("told(12)", x.told(12), 77);
         due("told(3)", x.told(3), 1);
-        day(x, "g?");
+        Given.day(x, "g?");
         due("its SIGHT does not hold", x.filled(-1), 0);
         x.forget();
         due("without SIGHTS", x.filled(-1), 4);
@@ -755,16 +734,16 @@ public final class PromisesTest {
     }
 
     private static void restore() {
-        of = "25";
+        Check.of("25");
         SwanSums x = new SwanSums();
         due("restore(2)", x.restore(2), OUTSIDE);
         due("restore(-1)", x.restore(-1), OUTSIDE);
         due("restore(0)", x.restore(0), STATE);
         x.image(1);
         due("restore(0)", x.restore(0), STATE);
-        day(x, "x0").done();
+        Given.day(x, "x0").done();
         x.seen(0, 0);
-        day(x, "p0rz");
+        Given.day(x, "p0rz");
         due("restore(1)", x.restore(1), 1);
         rowIs(x, "0123");
         due("told(3)", x.told(3), 0);
@@ -776,12 +755,12 @@ public final class PromisesTest {
     }
 
     private static void told() {
-        of = "26";
+        Check.of("26");
         SwanSums x = new SwanSums();
         x.swans(5);
         x.number(4, 33);
-        day(x, "x1").done();
-        day(x, "!!!");
+        Given.day(x, "x1").done();
+        Given.day(x, "!!!");
         x.seen(0, 0);
         x.seen(0, 0);
         due("told(0)", x.told(0), 3);
