@@ -155,30 +155,23 @@ public final class SwanSums {
         if (!isLesson(lesson)) {
             return OUTSIDE;
         }
-        if (routes == null) {
-            routes = new Routes();
-        }
-        routes.prepare(flock.size);
-        int found = routes.firstTaught(lesson, flock.line());
+        Routes all = routesOfNow();
+        int found = all.firstTaught(lesson, flock.line());
         if (found < 0) {
             return NONE;
         }
-        int many = routes.length(found);
+        int many = all.length(found);
         if (i == -1) {
             return many;
         }
-        return i < 0 || i >= many ? NONE : routes.event(found, many - 1 - i);
+        return i < 0 || i >= many ? NONE : all.event(found, many - 1 - i);
     }
 
     public int week(int lessons, int many) {
         if (many < 1 || many > MOST_LESSONS_A_WEEK || !areLessons(lessons, many)) {
             return OUTSIDE;
         }
-        if (routes == null) {
-            routes = new Routes();
-        }
-        routes.prepare(flock.size);
-        return routes.fewestInTurn(lessons, many, flock.line());
+        return routesOfNow().fewestInTurn(lessons, many, flock.line());
     }
 
     public int sell(int lesson) {
@@ -386,6 +379,14 @@ public final class SwanSums {
             return STATE;
         }
         return pad.pass(flock.row, flock.size, 0) == NONE ? NONE : NO;
+    }
+
+    private Routes routesOfNow() {
+        if (routes == null) {
+            routes = new Routes();
+        }
+        routes.prepare(flock.size);
+        return routes;
     }
 
     private int rowBehindPikes(int fill, int m) {
@@ -649,17 +650,19 @@ public final class SwanSums {
             return greater;
         }
 
+        /** Of a NUMBER: one up to 99 that is no prime has a divisor below 10. */
         static boolean isPrime(int v) {
-            for (int d = 2; d * d <= v; d++) {
-                if (v % d == 0) {
+            for (int d = 2; d < 10; d++) {
+                if (v > d && v % d == 0) {
                     return false;
                 }
             }
             return v >= 2;
         }
 
+        /** Of what three NUMBERS come to: 297 at most, which is below the square of 18. */
         static boolean isSquare(int v) {
-            for (int root = 0; root * root <= v; root++) {
+            for (int root = 0; root < 18; root++) {
                 if (root * root == v) {
                     return true;
                 }

@@ -4,7 +4,9 @@ import java.lang.reflect.Modifier;
 import java.nio.file.Files;
 import java.nio.file.Path;
 import java.util.ArrayList;
+import java.util.HashMap;
 import java.util.List;
+import java.util.Map;
 import java.util.Set;
 import java.util.TreeSet;
 import java.util.regex.Matcher;
@@ -25,10 +27,14 @@ public final class RulesTest {
         "double", "float", "instanceof", "native", "volatile", "Object", "Class", "Thread", "Random", "package",
         "equals", "hashCode", "toString", "System", "StringBuilder", "protected"};
 
+    /** The first line of a method, of the class itself or of one inside. */
+    private static final String HEAD = " {4,8}(?:public |private |static )*[\\w\\[\\]]+ \\w+\\([^()]*\\) \\{";
+
     public static void main(String[] args) throws Exception {
         String text = Files.readString(Path.of(args.length > 0 ? args[0] : "src/main/java/SwanSums.java"));
         text(text);
         lengths(text);
+        depths(text);
         face();
         classes();
         room();
@@ -60,13 +66,47 @@ public final class RulesTest {
         String[] lines = whole.split("\n");
         for (int k = 0; k < lines.length; k++) {
             Check.holds("line " + (k + 1) + " is no longer than 130 signs", lines[k].length() <= 130);
-            if (lines[k].matches(" +(public |private |static )*[\\w\\[\\]]+ \\w+\\(.*\\) \\{") && !lines[k].contains("else")) {
+            if (lines[k].matches(HEAD)) {
                 from = k;
             } else if (from >= 0 && lines[k].matches(" *\\}") && lines[k].indexOf('}') == lines[from].indexOf(lines[from].trim())) {
                 Check.holds("the method at line " + (from + 1) + " is short", k - from < 50);
                 from = -1;
             }
         }
+    }
+
+    /** Rule 11, by names alone: a name that several methods bear calls what any of them does. */
+    private static void depths(String whole) {
+        Map<String, Set<String>> calls = new HashMap<>();
+        String[] bodies = whole.replaceAll("(?s)/\\*.*?\\*/", "").split("\n(?=" + HEAD + ")");
+        for (int k = 1; k < bodies.length; k++) {
+            int end = bodies[k].indexOf("{\n");
+            Matcher head = Pattern.compile("(\\w+)\\(").matcher(bodies[k]);
+            Check.holds("a method has a name: " + bodies[k], head.find() && end > 0);
+            Set<String> called = calls.computeIfAbsent(head.group(1), name -> new TreeSet<>());
+            Matcher call = Pattern.compile("(\\w+)\\(").matcher(bodies[k].substring(end));
+            while (call.find()) {
+                called.add(call.group(1));
+            }
+        }
+        Check.holds("methods are found: " + calls.keySet(), calls.size() > 70 && calls.keySet().contains("raise"));
+        for (String name : calls.keySet()) {
+            int depth = depth(name, calls, new TreeSet<>());
+            Check.holds(name + " goes eight calls deep at most: " + depth, depth <= 8);
+        }
+    }
+
+    /** Recursion is no such depth: a name that stands open already is not counted again. */
+    private static int depth(String name, Map<String, Set<String>> calls, Set<String> open) {
+        if (!calls.containsKey(name) || !open.add(name)) {
+            return 0;
+        }
+        int deepest = 0;
+        for (String next : calls.get(name)) {
+            deepest = Math.max(deepest, depth(next, calls, open));
+        }
+        open.remove(name);
+        return deepest + 1;
     }
 
     private static void face() throws Exception {
